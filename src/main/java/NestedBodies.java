@@ -927,20 +927,20 @@ public final class NestedBodies {
             for (int k = 0; k < nestCounts.length; k++) {
                 nestCounts[k] = 0;
             }
-            grow(0, family.sets & ~(1 << family.whole()), 0);
+            grow(this, 0, family.sets & ~(1 << family.whole()), 0);
         }
 
         /** Counts a NEST and all that come of it by sets of open, each of which it takes. */
-        private void grow(int nest, int open, int size) {
-            if (size < 0 || size >= nestCounts.length) {
+        private static void grow(Body body, int nest, int open, int size) {
+            if (size < 0 || size >= body.nestCounts.length) {
                 return;
             }
-            nestCounts[size]++;
-            if (size == family.points - 1) {
-                addCorner(nest);
+            body.nestCounts[size]++;
+            if (size == body.family.points - 1) {
+                body.addCorner(nest);
                 return;
             }
-            int whole = family.whole();
+            int whole = body.family.whole();
             int rest = open;
             for (int left = Integer.bitCount(open); left > 0; left--) {
                 int set = leastOf(rest);
@@ -948,11 +948,11 @@ public final class NestedBodies {
                 int wider = nest | 1 << set;
                 int still = 0;
                 for (int s = set + 1; s < whole; s++) {
-                    if ((rest >>> s & 1) != 0 && family.nestTakes(wider, s)) {
+                    if ((rest >>> s & 1) != 0 && body.family.nestTakes(wider, s)) {
                         still |= 1 << s;
                     }
                 }
-                grow(wider, still, size + 1);
+                grow(body, wider, still, size + 1);
             }
         }
 
