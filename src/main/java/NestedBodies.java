@@ -25,6 +25,8 @@ public final class NestedBodies {
     /** What a CORNER stands AT is 16 at most, so five bits hold it. */
     private static final int AT_BITS = 5, AT_MASK = 31;
 
+    private static final int LONG_BITS = 64;
+
     /** Entry p: all sets that have POINT p. */
     private static final int[] HAVING = {0xAAAAAAAA, 0xCCCCCCCC, 0xF0F0F0F0, 0xFF00FF00, 0xFFFF0000};
     private static final int[] TENS = {1, 10, 100, 1000, 10000};
@@ -811,6 +813,12 @@ public final class NestedBodies {
             return Integer.bitCount(sets & within(set) & HAVING[point]);
         }
 
+        /** Whether two unlike FACES, the lesser first, are a NEST. */
+        boolean arePair(int set, int other) {
+            int both = set | other;
+            return (set & other) == 0 ? (sets >>> both & 1) == 0 : both == other;
+        }
+
         /** Whether a NEST stays one when a FACE that it doesn't have comes to it. */
         boolean nestTakes(int nest, int set) {
             int apart = 0;
@@ -883,18 +891,20 @@ public final class NestedBodies {
      */
     private static final class Body {
         private final Family family;
-        private int builtPoints;
         private int builtSets;
         private boolean arranged;
         private int farthest;
         private int corners;
         private final int[] nestCounts = new int[MOST_POINTS];
+        /** Entry s: the FACES above s that are a NEST of two with it. */
+        private final int[] fellows = new int[1 << MOST_POINTS];
         private final int[] nestRow = new int[MOST_CORNERS];
         private final int[] places = new int[MOST_CORNERS];
         private final int[] worths = new int[MOST_CORNERS];
         private final int[] flips = new int[MOST_CORNERS * MOST_IN_NEST];
         private final int[] distances = new int[MOST_CORNERS];
         private final int[] queue = new int[MOST_CORNERS];
+        private final Meetings met = new Meetings();
 
         Body(Family family) {
             this.family = family;
@@ -915,11 +925,11 @@ public final class NestedBodies {
             return c >= 0 && c < corners;
         }
 
+        /** THE FAMILY's greatest set is WHOLE, so its sets tell whether POINTS are as they were, too. */
         private void countNests() {
-            if (builtPoints == family.points && builtSets == family.sets) {
+            if (builtSets == family.sets) {
                 return;
             }
-            builtPoints = family.points;
             builtSets = family.sets;
             arranged = false;
             farthest = NONE;
@@ -927,10 +937,23 @@ public final class NestedBodies {
             for (int k = 0; k < nestCounts.length; k++) {
                 nestCounts[k] = 0;
             }
-            grow(this, 0, family.sets & ~(1 << family.whole()), 0);
+            int faces = family.sets & ~(1 << family.whole());
+            findFellows(faces);
+            grow(this, 0, faces, 0);
         }
 
-        /** Counts a NEST and all that come of it by sets of open, each of which it takes. */
+        private void findFellows(int faces) {
+            for (int set = 1; set < fellows.length; set++) {
+                fellows[set] = 0;
+                for (int other = set + 1; other < fellows.length && (faces >>> set & 1) != 0; other++) {
+                    if ((faces >>> other & 1) != 0 && family.arePair(set, other)) {
+                        fellows[set] |= 1 << other;
+                    }
+                }
+            }
+        }
+
+        /** Counts a NEST and all that come of it by sets of open, each of which goes with each of its own. */
         private static void grow(Body body, int nest, int open, int size) {
             if (size < 0 || size >= body.nestCounts.length) {
                 return;
@@ -940,19 +963,14 @@ public final class NestedBodies {
                 body.addCorner(nest);
                 return;
             }
-            int whole = body.family.whole();
             int rest = open;
             for (int left = Integer.bitCount(open); left > 0; left--) {
                 int set = leastOf(rest);
                 rest &= rest - 1;
-                int wider = nest | 1 << set;
-                int still = 0;
-                for (int s = set + 1; s < whole; s++) {
-                    if ((rest >>> s & 1) != 0 && body.family.nestTakes(wider, s)) {
-                        still |= 1 << s;
-                    }
+                // open has made sure of NESTS of two
+                if (size < 2 || body.family.nestTakes(nest, set)) {
+                    grow(body, nest | 1 << set, rest & body.fellows[set], size + 1);
                 }
-                grow(body, wider, still, size + 1);
             }
         }
 
@@ -1019,10 +1037,10 @@ public final class NestedBodies {
         private void findFlips() {
             for (int a = 0; a < corners; a++) {
                 for (int b = 0; b < a; b++) {
-                    int common = nestRow[a] & nestRow[b];
-                    if (Integer.bitCount(common) == family.points - 2) {
-                        putFlip(a, nestRow[a] ^ common, b);
-                        putFlip(b, nestRow[b] ^ common, a);
+                    int leaving = nestRow[a] & ~nestRow[b];
+                    if ((leaving & leaving - 1) == 0) {
+                        putFlip(a, leaving, b);
+                        putFlip(b, nestRow[b] & ~nestRow[a], a);
                     }
                 }
             }
@@ -1105,35 +1123,30 @@ public final class NestedBodies {
         int greatestSteps() {
             arrange();
             if (farthest < 0) {
-                for (int c = 0; c < corners; c++) {
-                    farthest = Math.max(farthest, spread(c));
-                }
+                farthest = met.roundsToAll(flips, corners, family.points - 1);
             }
             return farthest;
         }
 
-        /** Finds the STEPS from a CORNER to each: the greatest of them. */
-        private int spread(int from) {
+        /** Finds the STEPS from a CORNER to each. */
+        private void spread(int from) {
             for (int c = 0; c < corners; c++) {
                 distances[c] = NONE;
             }
             distances[from] = 0;
             queue[0] = from;
-            int met = 1;
-            int steps = 0;
-            for (int next = 0; next < met && next < corners; next++) {
+            int queued = 1;
+            for (int next = 0; next < queued && next < corners; next++) {
                 int here = queue[next];
-                steps = distances[here];
                 for (int k = 0; k < family.points - 1; k++) {
                     int there = flips[here * MOST_IN_NEST + k];
-                    if (distances[there] < 0 && met < queue.length) {
-                        distances[there] = steps + 1;
-                        queue[met] = there;
-                        met++;
+                    if (distances[there] < 0 && queued < queue.length) {
+                        distances[there] = distances[here] + 1;
+                        queue[queued] = there;
+                        queued++;
                     }
                 }
             }
-            return steps;
         }
 
         /** How many CORNERS have all sets of a NEST. */
@@ -1190,6 +1203,62 @@ public final class NestedBodies {
                 least = Math.min(least, sum);
             }
             return least;
+        }
+    }
+
+    /**
+     * FARTHEST, for all CORNERS at once: each tells its FLIPS, round by round, of which CORNERS it knows,
+     * at first of itself; after as many rounds as are FARTHEST each knows of all. A CORNER's bit stands
+     * in the low row, or for those from 64 on in the high one.
+     */
+    private static final class Meetings {
+        private final long[] low = new long[MOST_CORNERS];
+        private final long[] high = new long[MOST_CORNERS];
+        private final long[] nextLow = new long[MOST_CORNERS];
+        private final long[] nextHigh = new long[MOST_CORNERS];
+
+        int roundsToAll(int[] flips, int corners, int flipCount) {
+            long allLow = 0;
+            long allHigh = 0;
+            for (int c = 0; c < corners; c++) {
+                low[c] = c < LONG_BITS ? 1L << c : 0;
+                high[c] = c < LONG_BITS ? 0 : 1L << c - LONG_BITS;
+                allLow |= low[c];
+                allHigh |= high[c];
+            }
+            int rounds = 0;
+            while (rounds < corners && !allKnow(allLow, allHigh, corners)) {
+                tell(flips, corners, flipCount);
+                rounds++;
+            }
+            return rounds;
+        }
+
+        private boolean allKnow(long allLow, long allHigh, int corners) {
+            for (int c = 0; c < corners; c++) {
+                if (low[c] != allLow || high[c] != allHigh) {
+                    return false;
+                }
+            }
+            return true;
+        }
+
+        private void tell(int[] flips, int corners, int flipCount) {
+            for (int c = 0; c < corners; c++) {
+                long knownLow = low[c];
+                long knownHigh = high[c];
+                for (int k = 0; k < flipCount; k++) {
+                    int there = flips[c * MOST_IN_NEST + k];
+                    knownLow |= low[there];
+                    knownHigh |= high[there];
+                }
+                nextLow[c] = knownLow;
+                nextHigh[c] = knownHigh;
+            }
+            for (int c = 0; c < corners; c++) {
+                low[c] = nextLow[c];
+                high[c] = nextHigh[c];
+            }
         }
     }
 

@@ -837,6 +837,11 @@ public final class PromisesTest {
                 due(39, "peek at " + i, x.peek(sort, i), NO);
             }
         }
+        long[][] booleans = {{0, 0}, {1, 1}, {2, 1}, {0, 0}, {-1, 1}, {1L << 40, 1}, {Long.MIN_VALUE, 1}};
+        for (long[] row : booleans) {
+            due(38, "item(4, 0, " + row[0] + ")", x.item(4, 0, row[0]), 1);
+            due(39, "peek(4, 0)", x.peek(4, 0), row[1]);
+        }
         due(37, "tape(4, -5, 3) changes nothing", x.tape(4, -5, 3) * 10 + x.peek(4, 0), -19);
         due(37, "tape(4, 4, 60) anew", x.tape(4, 4, 60), 1);
         due(39, "peek(4, 0)", x.peek(4, 0), 0);
