@@ -762,7 +762,7 @@ public final class NestedBodies {
             return reached == set;
         }
 
-        /** A set COMES. Joined sets are greater than both, so one way up through all sets meets each. */
+        /** A set COMES. What two join to is greater than both, so one way up through all sets is enough. */
         void join(int coming) {
             sets |= 1 << coming;
             for (int a = 1; a <= whole(); a++) {
@@ -837,8 +837,8 @@ public final class NestedBodies {
         }
 
         /**
-         * Whether a set and some of the sets of a NEST apart from it make up a set of THE FAMILY. Of
-         * those some lie within others: then these make up the same without them.
+         * Whether a set and some of the sets of a NEST apart from it make up a set of THE FAMILY. Some of
+         * these may lie within others: they add nothing, so what is left has no POINT in common.
          */
         private boolean isJoined(int apart, int set) {
             int some = apart;
@@ -967,7 +967,7 @@ public final class NestedBodies {
             for (int left = Integer.bitCount(open); left > 0; left--) {
                 int set = leastOf(rest);
                 rest &= rest - 1;
-                // open has made sure of NESTS of two
+                // for NESTS of two, open has made sure of it
                 if (size < 2 || body.family.nestTakes(nest, set)) {
                     grow(body, nest | 1 << set, rest & body.fellows[set], size + 1);
                 }
@@ -1100,8 +1100,8 @@ public final class NestedBodies {
         }
 
         /**
-         * A CORNER's sets and WHOLE have one POINT each that none of them within it has; an ORDER LEADS
-         * to it if that is the set's first. So of all ORDERS that many are left by each set's size.
+         * Each set of a CORNER, and WHOLE, has one POINT that no lesser one within it has; an ORDER LEADS
+         * to the CORNER if that POINT is the first of each set's: one in as many as the set has POINTS.
          */
         int ordersTo(int c) {
             arrange();
