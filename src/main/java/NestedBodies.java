@@ -1194,13 +1194,13 @@ public final class NestedBodies {
         /** Over all CORNERS the least sum of what one stands AT for the POINTS of a set. */
         int leastOver(int set) {
             arrange();
-            int least = Integer.MAX_VALUE;
+            int least = NONE;
             for (int c = 0; c < corners; c++) {
                 int sum = 0;
                 for (int p = 0; p < family.points; p++) {
                     sum += (set >> p & 1) * atOf(places[c], p);
                 }
-                least = Math.min(least, sum);
+                least = c == 0 ? sum : Math.min(least, sum);
             }
             return least;
         }
