@@ -1,3 +1,6 @@
+import java.lang.reflect.InvocationTargetException;
+import java.lang.reflect.Method;
+import java.lang.reflect.Modifier;
 import java.util.ArrayList;
 import java.util.Arrays;
 import java.util.Collections;
@@ -12,7 +15,8 @@ import java.util.TreeSet;
 
 /**
  * Holds NestedBodies against a slow model that follows the document's words one by one: over every
- * CLOSED family of up to four POINTS, some of five, and long runs of calls chosen by a fixed seed.
+ * CLOSED family of up to four POINTS, some of five, every call with edges for its arguments, and long runs of
+ * calls chosen by a fixed seed.
  */
 public final class ModelTest {
     private static int wrong = 0;
@@ -20,9 +24,12 @@ public final class ModelTest {
     private static final int[] EDGES = {Integer.MIN_VALUE, -6, -2, 1000, 999, 100, 99, 60, 61, 127, 128,
         Integer.MAX_VALUE, Integer.MAX_VALUE - 1};
 
-    public static void main(String[] args) {
+    public static void main(String[] args) throws ReflectiveOperationException {
         everySmallFamily();
         everyKind();
+        for (int state = 0; state < 5; state++) {
+            everyCallAtEdges(state);
+        }
         for (int run = 0; run < 40; run++) {
             someFamilyOfFive(new Random(7000 + run));
         }
@@ -143,6 +150,125 @@ public final class ModelTest {
         }
     }
 
+    // ---- every call with edges for its arguments
+
+    private static final int LEAST = Integer.MIN_VALUE, MOST = Integer.MAX_VALUE;
+    /** For calls of one argument, of two, and so on. */
+    private static final int[][] EDGES_BY_COUNT = {{},
+        {LEAST, LEAST + 1, -1234, -15, -11, -10, -6, -5, -4, -3, -2, -1, 0, 1, 2, 3, 4, 5, 6, 7, 8, 9, 14, 15, 16, 17,
+            30, 31, 32, 33, 59, 63, 64, 99, 100, 119, 120, 121, 127, 128, 129, 255, 256, 1234, 1243, 4321, 12345, 54321,
+            123456, MOST - 1, MOST},
+        {LEAST, -5, -2, -1, 0, 1, 2, 3, 4, 5, 6, 7, 8, 15, 16, 31, 32, 99, 100, 119, 120, 999, 1000, MOST - 1, MOST},
+        {LEAST, -2, -1, 0, 1, 2, 3, 4, 5, 6, 59, 60, 61, MOST},
+        {},
+        {LEAST, -1, 0, 1, 5, 6, MOST}};
+    private static final Set<String> ASKED = Set.of("family", "of", "part", "told", "chosen", "nests", "risen", "at",
+        "set", "flip", "corner", "steps", "face", "leads", "fits", "odds", "mean", "after", "looked", "judge", "count",
+        "peek");
+
+    private static void everyCallAtEdges(int state) throws ReflectiveOperationException {
+        for (Method call : NestedBodies.class.getDeclaredMethods()) {
+            if (Modifier.isPublic(call.getModifiers())) {
+                atEdges(state, call, Model.class.getDeclaredMethod(call.getName(), call.getParameterTypes()));
+            }
+        }
+    }
+
+    private static void atEdges(int state, Method call, Method due) throws ReflectiveOperationException {
+        int count = call.getParameterCount();
+        int[] edges = EDGES_BY_COUNT[count];
+        int ways = 1;
+        for (int i = 0; i < count; i++) {
+            ways *= edges.length;
+        }
+        NestedBodies x = null;
+        Model m = null;
+        for (int way = 0; way < ways; way++) {
+            // an object is used for at most 512 calls
+            if (x == null || way % 200 == 0) {
+                x = new NestedBodies();
+                m = new Model();
+                setUp(state, x, m);
+            }
+            Object[] arguments = new Object[count];
+            int rest = way;
+            for (int i = 0; i < count; i++) {
+                int edge = edges[rest % edges.length];
+                arguments[i] = call.getParameterTypes()[i] == long.class ? (Object) (long) edge : (Object) edge;
+                rest /= edges.length;
+            }
+            String name = "state " + state + " " + call.getName() + Arrays.toString(arguments);
+            long answer = answer(name, x, call, arguments);
+            same(name, answer, answer(name, m, due, arguments));
+            if (!ASKED.contains(call.getName()) && (answer >= 0 || count < 3)) {
+                compareState(name, x, m);
+                x = null;
+            }
+        }
+    }
+
+    private static long answer(String name, Object of, Method call, Object[] arguments)
+        throws ReflectiveOperationException {
+        try {
+            return ((Number) call.invoke(of, arguments)).longValue();
+        } catch (InvocationTargetException e) {
+            wrong++;
+            System.out.println(name + " threw " + e.getCause());
+            return Long.MAX_VALUE;
+        }
+    }
+
+    private static void setUp(int state, NestedBodies x, Model m) {
+        if (state == 1) {
+            same("points", x.points(2), m.points(2));
+            same("line", x.line(0, 1, 1), m.line(0, 1, 1));
+        } else if (state == 2) {
+            same("points", x.points(5), m.points(5));
+            same("make", x.make(3), m.make(3));
+            same("choose", x.choose(30), m.choose(30));
+        } else if (state >= 3) {
+            same("comes", x.comes(3), m.comes(3));
+            same("line", x.line(0, 2, 1), m.line(0, 2, 1));
+            same("choose", x.choose(3), m.choose(3));
+            same("image", x.image(), m.image());
+            same("choose", x.choose(1), m.choose(1));
+            same("choose", x.choose(8), m.choose(8));
+            for (int i = 0; i < (state == 3 ? 2 : 8); i++) {
+                same("see", x.see(i % 5, 1), m.see(i % 5, 1));
+                same("event", x.event(0, 1 + i), m.event(0, 1 + i));
+                same("book", x.book(8 - i, 0), m.book(8 - i, 0));
+            }
+            for (int i = 0; i < (state == 3 ? 4 : 100); i++) {
+                int sign = "k1;c".charAt(i % 4);
+                same("feed", x.feed(sign), m.feed(sign));
+            }
+            for (int t = 0; t < 5; t++) {
+                int sort = state == 3 ? t : 1;
+                int size = state == 3 ? 5 : 60;
+                same("tape", x.tape(t, sort, size), m.tape(t, sort, size));
+                same("item", x.item(t, 0, 1), m.item(t, 0, 1));
+                same("item", x.item(t, 4, 5), m.item(t, 4, 5));
+            }
+        }
+    }
+
+    private static void compareState(String name, NestedBodies x, Model m) {
+        for (int what = 0; what < 8; what++) {
+            same(name + " told " + what, x.told(what), m.told(what));
+            same(name + " count " + what, x.count(what), m.count(what));
+            same(name + " chosen " + what, x.chosen(what), m.chosen(what));
+            same(name + " after " + what, x.after(what), m.after(what));
+            for (int t = 0; t < 6; t++) {
+                same(name + " peek " + t, x.peek(t, what), m.peek(t, what));
+            }
+        }
+        for (int i = 0; i < 9; i++) {
+            same(name + " family " + i, x.family(i), m.family(i));
+        }
+        same(name + " looked", x.looked(), m.looked());
+        same(name + " fits", x.fits(), m.fits());
+    }
+
     // ---- long runs
 
     private static void longRun(int seed) {
@@ -246,7 +372,8 @@ public final class ModelTest {
             case 33: same(seed + " image", x.image(), m.image()); break;
             case 34: same(seed + " undo", x.undo(), m.undo()); break;
             case 35: same(seed + " count", x.count(a), m.count(a)); break;
-            case 36: int sort = r.nextInt(3) == 0 ? a : 1; same(seed + " tape", x.tape(b, sort, i), m.tape(b, sort, i)); break;
+            case 36: int sort = r.nextInt(3) == 0 ? a : 1;
+                same(seed + " tape", x.tape(b, sort, i), m.tape(b, sort, i)); break;
             case 37: same(seed + " item", x.item(a, i, v), m.item(a, i, v)); break;
             case 38: same(seed + " peek", x.peek(a, i), m.peek(a, i)); break;
             case 39: same(seed + " shift", x.shift(a, i, b, j, n), m.shift(a, i, b, j, n)); break;
