@@ -1063,8 +1063,10 @@ public final class SentencesTest {
 
     private static void setUpOf(NestedBodies x, List<Long> all) {
         for (int what = 0; what < 8; what++) {
-            all.add((long) x.told(what));
             all.add((long) (what < 4 ? x.count(what) : x.chosen(what - 4)));
+        }
+        for (int what = 0; what < 8; what++) {
+            all.add((long) x.told(what));
         }
         for (int i = 0; i < 32; i++) {
             all.add((long) x.family(i));
