@@ -477,6 +477,10 @@ public final class SentencesTest {
             "image() event(2,3) undo() count(1)=0 after(0)=5",
             "book(1,1) book(3,1) image() book(-1,0) undo() count(2)=2 looked()=1",
             "image() book(3,1) undo() count(2)=0 looked()=-5",
+            // all of them full
+            "points(5) choose(1) choose(2) choose(4) choose(8) see(0,1)*4 event(2,3)*8 book(1,1)*7 book(3,1) image() "
+                + "points(4) see(-1,0) event(-1,0) book(-1,0) undo()=6 told(5)=4 chosen(0)=1 chosen(3)=8 count(0)=4 "
+                + "count(1)=8 count(2)=8 after(0)=31 looked()=7 fits()=127",
             // THE TEXT and TAPES are none of it
             "feed(107) image() feed(48) undo() count(3)=2 read()=1",
             "tape(0,1,2) image() item(0,1,7) undo() peek(0,1)=7", "image() tape(0,1,2) undo() peek(0,1)=0",
@@ -625,6 +629,8 @@ public final class SentencesTest {
         says("A set is CHOSEN no more: how many are.",
             "make(1) choose(1) choose(3) choose(7) drop(3)=2 chosen(0)=1 chosen(1)=7 chosen(2)=-5 drop(1)=1 "
                 + "chosen(0)=7 drop(7)=0 told(5)=0", "choose(1) drop(1)=0 told(6)=4",
+            "points(5) choose(1) choose(2) choose(4) choose(8) drop(1)=3 chosen(0)=2 chosen(1)=4 chosen(2)=8 "
+                + "chosen(3)=-5 choose(16)=4 chosen(3)=16 drop(16)=3 chosen(3)=-5",
             "make(1) choose(1) choose(3) choose(7) drop(7)=2 chosen(1)=3 drop(1)=1 choose(2)=2 chosen(0)=3 "
                 + "chosen(1)=2");
         says("NONE: it isn't CHOSEN.",
@@ -757,7 +763,7 @@ public final class SentencesTest {
         says("Of a FACE how many CORNERS lie on it (what 0), the first of these (1), over all CORNERS the least "
             + "that what one stands AT for the POINTS of the FACE is, together (2).",
             CHAIN3 + "face(1,0)=2 face(1,1)=0 face(1,2)=1 face(2,1)=2 face(2,2)=1 face(3,0)=2 face(3,1)=0 "
-                + "face(3,2)=3 face(4,1)=1 face(4,2)=1", "points(2) face(2,0)=1 face(2,1)=1 face(2,2)=1",
+                + "face(3,2)=3 face(4,1)=1 face(4,2)=1", "points(2) face(2,0)=1 face(2,1)=1 face(2,2)=1 face(1,2)=1",
             "points(5) make(3) face(16,0)=24 face(24,0)=12 face(24,2)=3 face(30,1)=96 face(30,2)=15 face(15,2)=15",
             ALL3 + "face(3,2)=3", ALL3 + "face(6,1)=4");
         says("NONE: no FACE, what.",
